@@ -2,34 +2,56 @@
 final class Checker {
   private int checks = 0;
   private int wrong = 0;
+  private int sentences = 0;
+  private int checksBeforeSentence = 0;
+  private String sentence = "";
+
+  /** Says which sentence of the document the checks from here on are about. */
+  void about(String place, String words) {
+    endSentence();
+    sentences++;
+    checksBeforeSentence = checks;
+    sentence = place + ", \"" + words + "\": ";
+  }
+
+  /** A sentence that no check followed has no test, so it counts as a wrong answer. */
+  private void endSentence() {
+    if (sentences > 0 && checks == checksBeforeSentence) {
+      say("nothing was looked at");
+    }
+  }
+
+  private void say(String fault) {
+    wrong++;
+    System.out.println(sentence + fault);
+  }
 
   void same(String what, long got, long want) {
     checks++;
     if (got != want) {
-      wrong++;
-      System.out.println(what + " answered " + got + ", due is " + want);
+      say(what + " answered " + got + ", due is " + want);
     }
   }
 
   void same(String what, boolean got, boolean want) {
     checks++;
     if (got != want) {
-      wrong++;
-      System.out.println(what + " answered " + got + ", due is " + want);
+      say(what + " answered " + got + ", due is " + want);
     }
   }
 
   void same(String what, String got, String want) {
     checks++;
     if (!got.equals(want)) {
-      wrong++;
-      System.out.println(what + ": shows\n" + got + "due is\n" + want);
+      say(what + ": shows\n" + got + "due is\n" + want);
     }
   }
 
   /** Ends the test, with exit code 1 if an answer was wrong or none was looked at. */
   void end() {
-    System.out.println(checks + " checks, " + wrong + " wrong");
+    endSentence();
+    String about = sentences == 0 ? "" : " about " + sentences + " sentences";
+    System.out.println(checks + " checks" + about + ", " + wrong + " wrong");
     if (wrong != 0 || checks == 0) {
       System.exit(1);
     }
@@ -40,10 +62,28 @@ final class Checker {
     StringBuilder s = new StringBuilder();
     s.append("root ").append(t.getRoot()).append(" count ").append(t.nodeCount()).append('\n');
     for (int n = -2; n <= IncrAttrEval.MAX_CAP + 1; n++) {
-      s.append(n).append(": kind ").append(t.getKind(n)).append(" parent ").append(t.getParent(n));
-      s.append(attributes(t, n)).append('\n');
+      s.append(node(t, n));
     }
     return s.toString();
+  }
+
+  /** The root and every answer for every id from 0 up but those left out, which must be in order. */
+  static String pictureWithout(IncrAttrEval t, int... leftOut) {
+    StringBuilder s = new StringBuilder();
+    s.append("root ").append(t.getRoot()).append('\n');
+    int next = 0;
+    for (int n = 0; n < IncrAttrEval.MAX_CAP; n++) {
+      if (next < leftOut.length && leftOut[next] == n) {
+        next++;
+      } else {
+        s.append(node(t, n));
+      }
+    }
+    return s.toString();
+  }
+
+  private static String node(IncrAttrEval t, int n) {
+    return n + ": kind " + t.getKind(n) + " parent " + t.getParent(n) + attributes(t, n) + "\n";
   }
 
   /** The answers of the attribute getters for one id. */
