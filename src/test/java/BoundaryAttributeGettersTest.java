@@ -172,7 +172,7 @@ public final class BoundaryAttributeGettersTest {
     for (int size = 1; size <= 31; size += 2) {
       IncrAttrEval t = new IncrAttrEval(size);
       int top = t.newNum(0);
-      while (t.nodeCount() < size) {
+      for (int made = 1; made < size; made += 2) {
         int leaf = t.newVar(0);
         top = t.newOp(MUL, leaf, top);
       }
@@ -382,14 +382,14 @@ public final class BoundaryAttributeGettersTest {
     changesNothing("Promise 15", "getDepth", IncrAttrEval::getDepth);
     check.about("Promise 16", "Neither method changes anything.");
     for (int n : Forest.manyIds()) {
-      Forest.unchanged(check, "getEnv and isBound of " + n, () -> Forest.make(32), t -> askEveryName(t, n));
+      Forest.unchanged(check, "getEnv and isBound of " + n, 32, t -> askEveryName(t, n));
     }
   }
 
   private static void changesNothing(String promise, String name, ToIntBiFunction<IncrAttrEval, Integer> getter) {
     check.about(promise, "It changes nothing.");
     for (int n : Forest.manyIds()) {
-      Forest.unchanged(check, name + "(" + n + ")", () -> Forest.make(32), t -> getter.applyAsInt(t, n));
+      Forest.unchanged(check, name + "(" + n + ")", 32, t -> getter.applyAsInt(t, n));
     }
   }
 

@@ -241,22 +241,44 @@ public final class BoundaryAttributesTest {
   private static void earlierPlacesHaveNoEffect() {
     check.about(PLACE, "After every call the getters answer that solution for the tree as it then is; values a node had "
       + "while detached or in an earlier place have no effect on any answer.");
+    check.same("runs of two splices", eachTwoSplices((when, t, m) -> {
+      check.same(when + ", every answer", Checker.picture(t), m.picture());
+    }) > 1000, true);
+  }
+
+  private interface Look {
+    void at(String when, IncrAttrEval t, Model m);
+  }
+
+  /** Looks at the twenty nodes after each splice, and then after each further one; answers how many runs there were. */
+  private static int eachTwoSplices(Look look) {
+    int runs = 0;
+    for (int first = 0; first < 400; first++) {
+      Model before = new Model(20);
+      build(new IncrAttrEval(20), before);
+      if (!before.replace(first / 20, first % 20)) {
+        continue;
+      }
+      for (int second = 0; second < 400; second++) {
+        if (before.attached(second / 20) && before.free(second % 20)) {
+          splice(first, second, look);
+          runs++;
+        }
+      }
+    }
+    return runs;
+  }
+
+  private static void splice(int first, int second, Look look) {
     IncrAttrEval t = new IncrAttrEval(20);
     Model m = new Model(20);
     build(t, m);
-    for (int round = 0; round < 3; round++) {
-      for (int old = 0; old < 20; old++) {
-        for (int nw = 0; nw < 20; nw++) {
-          String call = "round " + round + ", replace(" + old + ", " + nw + ")";
-          boolean taken = m.replace(old, nw);
-          check.same(call, t.replace(old, nw), taken);
-          if (taken) {
-            check.same(call + ", every answer", Checker.picture(t), m.picture());
-          }
-        }
-        check.same("setRoot(" + old + ")", t.setRoot(old), m.setRoot(old));
-        check.same("every answer after it", Checker.picture(t), m.picture());
-      }
+    String when = "";
+    for (int call : new int[] {first, second}) {
+      when += "replace(" + call / 20 + ", " + call % 20 + ") ";
+      m.replace(call / 20, call % 20);
+      check.same(when, t.replace(call / 20, call % 20), true);
+      look.at(when, t, m);
     }
   }
 
@@ -309,17 +331,9 @@ public final class BoundaryAttributesTest {
     check.about(PLACE, "Equivalently, for each attached node the attribute getters answer what a fresh object of the same "
       + "capacity would answer for the corresponding node (its id may differ) after the same tree (same kinds, payloads "
       + "and slot order) were built into it by creation calls alone and then made root by one `setRoot`");
-    IncrAttrEval t = new IncrAttrEval(20);
-    Model m = new Model(20);
-    build(t, m);
-    for (int step = 0; step < 400; step++) {
-      int old = step * 7 % 20;
-      int nw = step * step % 20;
-      if (m.replace(old, nw)) {
-        check.same("step " + step, t.replace(old, nw), true);
-        m.sameAsFreshBuild(check, "step " + step, t, 20);
-      }
-    }
+    check.same("runs of two splices", eachTwoSplices((when, t, m) -> {
+      m.sameAsFreshBuild(check, when, t, 20);
+    }) > 1000, true);
   }
 
   private static void notAttachedAnswers() {

@@ -83,8 +83,7 @@ public final class BoundaryConstructionTest {
       int cap = capacity < 8 ? 8 : Math.min(capacity, 32);
       IncrAttrEval t = Forest.make(capacity);
       askMuch(t);
-      while (t.nodeCount() < cap) {
-        int made = t.nodeCount();
+      for (int made = Forest.MADE; made < cap; made++) {
         check.same("capacity " + capacity + ", newNum", t.newNum(made), made);
         askMuch(t);
       }

@@ -98,7 +98,8 @@ public final class BoundaryNewNumTest {
 
   private static void eachFreeRootKeepsItsPayload() {
     IncrAttrEval t = Forest.make(32);
-    while (t.newNum(-5) != NONE) {
+    for (int n = Forest.MADE; n < 32; n++) {
+      t.newNum(-5);
       check.same("root while filling", t.getRoot(), 2);
     }
     check.same("value of the root when full", t.getVal(2), 3);

@@ -92,28 +92,6 @@ public final class BoundaryNodesTest {
     }
   }
 
-  /** Every call of replace and setRoot on a forest, in an order that keeps changing its shape. */
-  private static void eachShape(Look look) {
-    IncrAttrEval t = Forest.make(8);
-    look.at("at the start", t);
-    for (int round = 0; round < 4; round++) {
-      for (int old = 0; old < 8; old++) {
-        for (int nw = 7; nw >= 0; nw--) {
-          if (t.replace(old, (nw + round) % 8)) {
-            look.at("round " + round + ", replace(" + old + ", " + (nw + round) % 8 + ")", t);
-          }
-        }
-        if (t.setRoot(7 - old)) {
-          look.at("round " + round + ", setRoot(" + (7 - old) + ")", t);
-        }
-      }
-    }
-  }
-
-  private interface Look {
-    void at(String when, IncrAttrEval t);
-  }
-
   private static boolean isInner(IncrAttrEval t, int n) {
     return t.getKind(n) >= ADD;
   }
@@ -128,7 +106,7 @@ public final class BoundaryNodesTest {
 
   private static void leavesHaveNoChildren() {
     check.about(PLACE, "NUM and VAR nodes have no children.");
-    eachShape((when, t) -> {
+    Forest.eachShape(3, (when, t) -> {
       for (int n = 0; n < t.nodeCount(); n++) {
         if (!isInner(t, n)) {
           check.same(when + ", children of leaf " + n, children(t, n), 0);
@@ -140,7 +118,7 @@ public final class BoundaryNodesTest {
   private static void slotsHoldOneNodeEach() {
     check.about(PLACE, "ADD, SUB, MUL and LET nodes have two child slots, slot 0 and slot 1, "
       + "each always holding exactly one node");
-    eachShape((when, t) -> {
+    Forest.eachShape(3, (when, t) -> {
       for (int n = 0; n < t.nodeCount(); n++) {
         if (isInner(t, n)) {
           check.same(when + ", children of " + n, children(t, n), 2);
@@ -162,7 +140,7 @@ public final class BoundaryNodesTest {
 
   private static void heldNodesHaveTheirParent() {
     check.about(PLACE, "A node held in a slot of node p has parent p; every other node has parent NONE.");
-    eachShape((when, t) -> {
+    Forest.eachShape(3, (when, t) -> {
       int held = 0;
       int inner = 0;
       for (int n = 0; n < t.nodeCount(); n++) {
@@ -213,7 +191,7 @@ public final class BoundaryNodesTest {
   private static void rootIsNoneOrANodeWithoutParent() {
     check.about(PLACE, "The root is NONE or one valid node whose parent is NONE; a fresh object has root NONE.");
     check.same("root of a fresh object", new IncrAttrEval(8).getRoot(), NONE);
-    eachShape((when, t) -> {
+    Forest.eachShape(3, (when, t) -> {
       int root = t.getRoot();
       check.same(when + ", the root is valid", root >= 0 && root < t.nodeCount(), true);
       check.same(when + ", parent of the root", t.getParent(root), NONE);
@@ -222,7 +200,7 @@ public final class BoundaryNodesTest {
 
   private static void attachedFollowsTheParents() {
     check.about(PLACE, "A node is ATTACHED when it is the root or its parent is attached.");
-    eachShape((when, t) -> {
+    Forest.eachShape(3, (when, t) -> {
       for (int n = 0; n < t.nodeCount(); n++) {
         boolean attached = n == t.getRoot() || t.getDepth(t.getParent(n)) >= 0;
         check.same(when + ", size of " + n + " is told", t.getSize(n) > 0, attached);

@@ -300,8 +300,8 @@ public final class BoundaryReplaceTest {
     for (int cap = 8; cap <= 32; cap++) {
       for (int old : Forest.ATTACHED) {
         IncrAttrEval t = Forest.make(cap);
-        while (t.newNum(1) != NONE) {
-          check.same("root while filling", t.getRoot(), 2);
+        for (int n = Forest.MADE; n < cap; n++) {
+          t.newNum(1);
         }
         check.same("replace in a full object, CAP " + cap, t.replace(old, 5), true);
         check.same("nodeCount after it", t.nodeCount(), cap);

@@ -150,8 +150,7 @@ public final class BoundaryStructureTest {
     check.same("getParent of the old", t.getParent(0), NONE);
     check.same("getParent below the new", t.getParent(3), 5);
     IncrAttrEval zero = new IncrAttrEval(32);
-    while (zero.nodeCount() < 32) {
-      int made = zero.nodeCount();
+    for (int made = 0; made < 32; made++) {
       int n = made % 2 == 1 || made == 0 ? zero.newNum(1) : zero.newOp(ADD, made - 2, made - 1);
       check.same("id of the chain", n, made);
     }
@@ -186,18 +185,18 @@ public final class BoundaryStructureTest {
 
   private static void gettersChangeNothing() {
     check.about("Promise 8", "It changes nothing.");
-    Forest.unchanged(check, "getRoot", () -> Forest.make(32), t -> t.getRoot());
-    Forest.unchanged(check, "getRoot of a new object", () -> new IncrAttrEval(32), t -> t.getRoot());
+    Forest.unchanged(check, "getRoot", 32, t -> t.getRoot());
+    Forest.unchanged(check, "getRoot when full", 8, t -> t.getRoot());
     check.about("Promise 9", "It changes nothing.");
-    Forest.unchanged(check, "nodeCount", () -> Forest.make(32), t -> t.nodeCount());
-    Forest.unchanged(check, "nodeCount when full", () -> Forest.make(8), t -> t.nodeCount());
+    Forest.unchanged(check, "nodeCount", 32, t -> t.nodeCount());
+    Forest.unchanged(check, "nodeCount when full", 8, t -> t.nodeCount());
     check.about("Promise 10", "It changes nothing.");
     for (int n : Forest.manyIds()) {
-      Forest.unchanged(check, "getKind(" + n + ")", () -> Forest.make(32), t -> t.getKind(n));
+      Forest.unchanged(check, "getKind(" + n + ")", 32, t -> t.getKind(n));
     }
     check.about("Promise 11", "It changes nothing.");
     for (int n : Forest.manyIds()) {
-      Forest.unchanged(check, "getParent(" + n + ")", () -> Forest.make(32), t -> t.getParent(n));
+      Forest.unchanged(check, "getParent(" + n + ")", 32, t -> t.getParent(n));
     }
   }
 }

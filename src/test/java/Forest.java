@@ -1,3 +1,4 @@
+import java.util.Arrays;
 import java.util.function.Consumer;
 import java.util.function.Supplier;
 import java.util.function.ToIntFunction;
@@ -76,6 +77,37 @@ final class Forest {
     return ids;
   }
 
+  /** What is looked at in eachShape. */
+  interface Look {
+    void at(String when, IncrAttrEval t);
+  }
+
+  /** Looks at the forest as it is made, and after every run of up to that many changes. */
+  static void eachShape(int changes, Look look) {
+    shapesAfter(new int[0], changes, look);
+  }
+
+  private static void shapesAfter(int[] run, int more, Look look) {
+    IncrAttrEval t = make(8);
+    String when = "after";
+    for (int call : run) {
+      when += call < 64 ? " replace(" + call / 8 + ", " + call % 8 + ")" : " setRoot(" + call % 8 + ")";
+      if (!change(t, call)) {
+        return;
+      }
+    }
+    look.at(when, t);
+    for (int call = 0; more > 0 && call < 72; call++) {
+      int[] longer = Arrays.copyOf(run, run.length + 1);
+      longer[run.length] = call;
+      shapesAfter(longer, more - 1, look);
+    }
+  }
+
+  private static boolean change(IncrAttrEval t, int call) {
+    return call < 64 ? t.replace(call / 8, call % 8) : t.setRoot(call % 8);
+  }
+
   /**
    * A picture of what the getters don't show at once: kinds, payloads and slots of the nodes that
    * are not attached, too. Every free root is made the root for a while, then put, as far as there
@@ -119,11 +151,45 @@ final class Forest {
     likeTwin(check, "after " + call, t, make.get());
   }
 
-  /** Questions that change nothing, whatever they answer. */
-  static void unchanged(Checker check, String calls, Supplier<IncrAttrEval> make, Consumer<IncrAttrEval> ask) {
-    IncrAttrEval t = make.get();
+  /**
+   * Questions that change nothing, whatever they answer. A twin would not do here, as it must be
+   * asked too; so the answers before and later on are compared with the model's.
+   */
+  static void unchanged(Checker check, String calls, int capacity, Consumer<IncrAttrEval> ask) {
+    IncrAttrEval t = make(capacity);
+    Model m = model(capacity);
     ask.accept(t);
-    likeTwin(check, "after " + calls, t, make.get());
+    check.same("after " + calls + ", every answer", Checker.picture(t), m.picture());
+    for (int id : new int[] {5, 6, 7, ROOT}) {
+      ask.accept(t);
+      check.same("after " + calls + ", setRoot(" + id + ")", t.setRoot(id), m.setRoot(id));
+      check.same("after " + calls + " and setRoot, every answer", Checker.picture(t), m.picture());
+    }
+    for (int nw : FREE_ROOTS) {
+      int old = nw == 5 ? 1 : nw - 1;
+      ask.accept(t);
+      check.same("after " + calls + ", replace by " + nw, t.replace(old, nw), m.replace(old, nw));
+      check.same("after " + calls + " and replace, every answer", Checker.picture(t), m.picture());
+    }
+    ask.accept(t);
+    check.same("after " + calls + ", newNum", t.newNum(50), m.make(IncrAttrEval.NUM, 50, NONE, NONE));
+    check.same("after " + calls + ", newLet", t.newLet(1, MADE, 5), m.newLet(1, MADE, 5));
+    check.same("after " + calls + ", setRoot", t.setRoot(MADE + 1), m.setRoot(MADE + 1));
+    check.same("after " + calls + " and newLet, every answer", Checker.picture(t), m.picture());
+  }
+
+  private static Model model(int capacity) {
+    Model m = new Model(capacity);
+    m.make(IncrAttrEval.NUM, 3, NONE, NONE);
+    m.newVar(0);
+    m.newLet(0, 0, 1);
+    m.make(IncrAttrEval.NUM, 10, NONE, NONE);
+    m.newVar(1);
+    m.newOp(IncrAttrEval.SUB, 3, 4);
+    m.make(IncrAttrEval.NUM, 20, NONE, NONE);
+    m.newVar(0);
+    m.setRoot(ROOT);
+    return m;
   }
 
   static void likeTwin(Checker check, String what, IncrAttrEval t, IncrAttrEval twin) {

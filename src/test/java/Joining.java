@@ -129,8 +129,13 @@ final class Joining {
     for (int capacity : new int[] {9, 32}) {
       IncrAttrEval t = Forest.make(capacity);
       String before = Checker.pictureWithout(t, 5, 6, 8);
+      String[] joined = {Checker.attributes(t, 5), Checker.attributes(t, 6)};
       join.of(t, 5, 6);
       check.same(call + ", the other nodes", Checker.pictureWithout(t, 5, 6, 8), before);
+      check.same(call + ", kind in slot 0", t.getKind(5), IncrAttrEval.SUB);
+      check.same(call + ", kind in slot 1", t.getKind(6), IncrAttrEval.NUM);
+      check.same(call + ", attributes in slot 0", Checker.attributes(t, 5), joined[0]);
+      check.same(call + ", attributes in slot 1", Checker.attributes(t, 6), joined[1]);
     }
     IncrAttrEval rootless = Forest.nums(8, 2);
     join.of(rootless, 0, 1);

@@ -82,6 +82,10 @@ final class Model {
     return true;
   }
 
+  int slot(int n, int s) {
+    return slots[n][s];
+  }
+
   /** The nearest LET of that name whose body holds n, or NONE. */
   int binder(int n, int x) {
     for (int at = n; at != root; at = parent[at]) {

@@ -7,10 +7,13 @@ public final class ModelTest {
   private static final int NONE = IncrAttrEval.NONE;
   private static final Checker check = new Checker();
   private static long seed;
+  // In every other run great subtrees are kept in the tree, and all names are used.
+  private static boolean great;
 
   public static void main(String[] args) {
     for (int run = 0; run < 600; run++) {
       seed = 7919L * run + 1;
+      great = run % 2 == 1;
       playRun(run);
     }
     check.end();
@@ -34,7 +37,7 @@ public final class ModelTest {
   }
 
   private static void playCall(String what, IncrAttrEval t, Model m) {
-    int name = pick(20) == 0 ? pick(12) - 2 : pick(3);
+    int name = pick(20) == 0 ? pick(12) - 2 : pick(great ? 8 : 3);
     int a = pickFree(m);
     int b = pickFree(m);
     switch (pick(m.count < m.cap ? 9 : 15)) {
@@ -58,14 +61,34 @@ public final class ModelTest {
         check.same(what + "newLet(" + name + ", " + a + ", " + b + ")", t.newLet(name, a, b), m.newLet(name, a, b));
         break;
       case 7:
+        a = greatest(m, a);
         check.same(what + "setRoot(" + a + ")", t.setRoot(a), m.setRoot(a));
         break;
       default: {
-        int old = pickAttached(m);
-        check.same(what + "replace(" + old + ", " + a + ")", t.replace(old, a), m.replace(old, a));
+        int old = leafOf(m, pickAttached(m));
+        int nw = pick(3) == 0 ? greatest(m, a) : a;
+        check.same(what + "replace(" + old + ", " + nw + ")", t.replace(old, nw), m.replace(old, nw));
         break;
       }
     }
+  }
+
+  /** In a run with great subtrees, the greatest free one in place of the given one. */
+  private static int greatest(Model m, int given) {
+    int best = given;
+    for (int n = 0; great && m.free(given) && n < m.count; n++) {
+      best = m.free(n) && m.size(n) > m.size(best) ? n : best;
+    }
+    return best;
+  }
+
+  /** In a run with great subtrees, mostly a leaf below the given attached node in place of it. */
+  private static int leafOf(Model m, int given) {
+    int n = given;
+    while (great && m.attached(n) && m.size(n) > 1 && pick(8) != 0) {
+      n = m.slot(n, pick(2));
+    }
+    return n;
   }
 
   /** Mostly a free root, now and then any id at all. */
